@@ -756,7 +756,7 @@ public final class ItWasLikeThat {
 
         /** The ROOMS (bits) in which one can be a MINUTE on. */
         int stepsOf(int room) {
-            return hasRoom(room) ? doors[room] | 1 << room : 0;
+            return room >= 0 && room < doors.length ? doors[room] | 1 << room : 0;
         }
 
         int doorsOf(int room) {
@@ -954,14 +954,6 @@ public final class ItWasLikeThat {
             openByFacts(house, child);
             sum(upTo, 0, 1);
             return all() > 0;
-        }
-
-        boolean someForEach(House house) {
-            boolean some = true;
-            for (int c = 0; c < house.children && some; c++) {
-                some = someFor(house, c);
-            }
-            return some;
         }
 
         private void openByFacts(House house, int child) {
@@ -1490,7 +1482,11 @@ public final class ItWasLikeThat {
                 return false;
             }
             draft.turnDoor(one, other);
-            return paths.someForEach(draft);
+            boolean some = true;
+            for (int c = 0; c < draft.children && some; c++) {
+                some = paths.someFor(draft, c);
+            }
+            return some;
         }
 
         private boolean goes(int child, int begin) {
