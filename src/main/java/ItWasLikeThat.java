@@ -439,13 +439,13 @@ public final class ItWasLikeThat {
 
     public int judge() {
         int in = numbersIn;
+        int whole = in - in % 3;
         numbersIn = 0;
-        for (int at = 0; at < in; at++) {
+        for (int at = 0; at < whole; at++) {
             if (!canBeInRow(at)) {
                 return at;
             }
         }
-        int whole = in - in % 3;
         return whole == in ? NOTHING : whole;
     }
 

@@ -110,6 +110,10 @@ public final class FactsTest {
         x.fact(2, 0, 0, 0);
         Due.due("can(0)", x.can(0), 6);
         Due.due("can(1)", x.can(1), 6);
+        x.fact(2, 1, 1, 1);
+        Due.due("THERE by one WAY", x.ways(2, 1), 1);
+        Due.due("can(0) by one WAY", x.can(0), 6);
+        Due.due("can(1) by one WAY", x.can(1), 6);
         Due.refused(x, "can(2)", x.can(2), -2, 0);
         Due.refused(x, "can(-1)", x.can(-1), -2, 1);
         Due.due("can(0) of nobody", new ItWasLikeThat().can(0), 0);

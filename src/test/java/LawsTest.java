@@ -73,6 +73,7 @@ public final class LawsTest {
         Due.due("byLaws(0, 50)", x.byLaws(0, 50), 12);
         Due.due("byLaws(0, 1)", x.byLaws(0, 1), 13);
         Due.due("byLaws(0, 0)", x.byLaws(0, 0), 15);
+        Due.due("byLaws(0, 99)", x.byLaws(0, 99), 12);
         Due.refused(x, "byLaws(3, -1)", x.byLaws(3, -1), -1, 0);
         Due.refused(x, "byLaws(-1, 0)", x.byLaws(-1, 0), -1, 1);
         Due.refused(x, "byLaws(0, -1)", x.byLaws(0, -1), -4, 0);

@@ -207,7 +207,7 @@ public final class LettersTest {
     }
 
     private static void rBeginsAnew() {
-        ItWasLikeThat x = Due.told("r33;d01;d12;c000;t0012;b22;f022+;");
+        ItWasLikeThat x = Due.told("r33;d01;d12;c000;c000;t0112;t1221;b22;f022+;");
         x.chance(4, 9);
         Due.due("r", Due.tell(x, "r44;"), 1);
         int[] want = {4, 4, 0, 0, 0, 0, 0};
@@ -215,8 +215,16 @@ public final class LettersTest {
             Due.due("count(" + what + ") behind r", x.count(what), want[what]);
         }
         Due.due("CHANCES stay", x.chance(4, 2), 9);
-        Due.due("a CHILD anew", Due.tell(x, "c000;"), 1);
-        Due.due("was(0, 2)", x.was(0, 2), 0);
+        Due.due("CHILDREN anew", Due.tell(x, "c000;c000;"), 2);
+        for (int c = 0; c < 2; c++) {
+            for (int m = 0; m < 4; m++) {
+                Due.due("was(" + c + ", " + m + ")", x.was(c, m), 0);
+            }
+        }
+        for (int r = 1; r < 4; r++) {
+            Due.due("door(" + (r - 1) + ", " + r + ")", x.door(r - 1, r), 0);
+            Due.due("door(" + r + ", " + (r - 1) + ")", x.door(r, r - 1), 0);
+        }
     }
 
     private static void sayingsAreNone() {

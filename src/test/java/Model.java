@@ -839,20 +839,21 @@ final class Model {
     long judge() {
         List<Integer> said = new ArrayList<>(row);
         row.clear();
-        for (int i = 0; i < said.size(); i++) {
-            int v = said.get(i);
-            if (i % 3 < 2) {
-                if (!w.isKid(v)) {
-                    return i;
-                }
-            } else {
-                int says = w.says(said.get(i - 2), said.get(i - 1), w.deedMinute);
-                if (v != (says == -9 ? 9 : says)) {
-                    return i;
+        for (int i = 0; i < said.size(); i += 3) {
+            if (i + 2 >= said.size()) {
+                return i;
+            }
+            for (int k = i; k < i + 2; k++) {
+                if (!w.isKid(said.get(k))) {
+                    return k;
                 }
             }
+            int says = w.says(said.get(i), said.get(i + 1), w.deedMinute);
+            if (said.get(i + 2) != (says == -9 ? 9 : says)) {
+                return i + 2;
+            }
         }
-        return said.size() % 3 == 0 ? -9 : said.size() / 3 * 3;
+        return -9;
     }
 
     private int z;

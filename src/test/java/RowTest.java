@@ -58,9 +58,11 @@ public final class RowTest {
         judged(x, 3, 0, 0, 0, 1);
         judged(x, 3, 0, 0, 0, 1, 2);
         judged(x, 2, 0, 0, 1, 1, 2);
-        // A number that can't be is told ahead of that.
+        // It is not looked into.
         judged(x, 3, 0, 0, 0, 7);
-        judged(x, 4, 0, 0, 0, 1, 7);
+        judged(x, 3, 0, 0, 0, 1, 7);
+        // A number that can't be, in a whole three, comes ahead of it.
+        judged(x, 0, 7, 0, 0, 1);
         x.deed(1, 0);
         judged(x, -9, 2, 0, 9, 2, 2, 9, 1, 2, 1);
         judged(new ItWasLikeThat(), 0, 0, 0, 0);

@@ -83,6 +83,10 @@ public final class WhoTest {
         Due.due("of several the least", x.likeliest(), 4);
         x.chance(6, 3);
         Due.due("likeliest()", x.likeliest(), 6);
+        x.chance(4, 0);
+        x.chance(5, 1);
+        x.chance(6, 0);
+        Due.due("by one tenth alone", x.likeliest(), 5);
         Due.due("BOLD", two().likeliest(), 1);
         x = Due.told("r22;d01;c000;c000;");
         Due.due("of two CHILDREN", x.likeliest(), 0);
