@@ -2,15 +2,22 @@
 final class Due {
     private static int asked = 0;
     private static int wrong = 0;
+    private static String sentence = "";
 
     private Due() {
+    }
+
+    /** What the document asks, told beside each answer from here on that is not as due. */
+    static void about(String words) {
+        sentence = words;
     }
 
     static void due(String call, long got, long want) {
         asked++;
         if (got != want) {
             wrong++;
-            System.out.println(call + " answered " + got + ", due is " + want);
+            String by = sentence.isEmpty() ? "" : " by \"" + sentence + "\"";
+            System.out.println(call + " answered " + got + ", due is " + want + by);
         }
     }
 
@@ -20,6 +27,18 @@ final class Due {
             x.feed(text.charAt(i));
         }
         return x.house();
+    }
+
+    /** What house() answers to a text is due; the text may come behind others. */
+    static void tells(ItWasLikeThat x, String text, int want) {
+        due("house() of " + text, tell(x, text), want);
+    }
+
+    /** What house() answers to a text on a new object is due. */
+    static ItWasLikeThat tells(String text, int want) {
+        ItWasLikeThat x = new ItWasLikeThat();
+        tells(x, text, want);
+        return x;
     }
 
     /** A new object with a HOUSE that must be without FAULT; SAYINGS and FACTS as told. */
@@ -42,6 +61,20 @@ final class Due {
     static void row(ItWasLikeThat x, int... numbers) {
         for (int number : numbers) {
             x.row(number);
+        }
+    }
+
+    /** The counts from 0 on are due. */
+    static void counts(ItWasLikeThat x, int... want) {
+        for (int what = 0; what < want.length; what++) {
+            due("count(" + what + ")", x.count(what), want[what]);
+        }
+    }
+
+    /** Nothing has been refused, so far. */
+    static void nothingRefused(ItWasLikeThat x) {
+        for (int what = 11; what <= 16; what++) {
+            due("count(" + what + ")", x.count(what), 0);
         }
     }
 
