@@ -995,7 +995,7 @@ public final class ItWasLikeThat {
                 int m = begin + i * step;
                 for (int r = 0; r < rooms; r++) {
                     int at = m * MOST_ROOMS + r;
-                    if (at >= 0 && at < counts.length) {
+                    if (m >= 0 && m < open.length && at < counts.length) {
                         counts[at] = i == 0 ? 1 : sumNextTo(counts, m - step, r);
                         counts[at] *= open[m] >> r & 1;
                     }
@@ -1005,9 +1005,10 @@ public final class ItWasLikeThat {
 
         private int sumNextTo(int[] counts, int minute, int room) {
             int sum = 0;
+            int near = room >= 0 && room < steps.length ? steps[room] : 0;
             for (int r = 0; r < rooms; r++) {
                 int at = minute * MOST_ROOMS + r;
-                if (at >= 0 && at < counts.length && (steps[room] >> r & 1) == 1) {
+                if (at >= 0 && at < counts.length && (near >> r & 1) == 1) {
                     sum += counts[at];
                 }
             }
@@ -1030,7 +1031,7 @@ public final class ItWasLikeThat {
                 return 0;
             }
             int at = minute * MOST_ROOMS + room;
-            return upTo[at] * onFrom[at];
+            return at < upTo.length && at < onFrom.length ? upTo[at] * onFrom[at] : 0;
         }
 
         int mostLeftAt(int minute) {
